@@ -821,12 +821,10 @@ public final class Stemspan {
     private static final class Theorem {
         private final Row part;
         private final Row both;
-        private final long[] waysFrom;
 
         Theorem() {
             part = new Row(MOST_IN_TEXT);
             both = new Row(MOST_IN_TEXT);
-            waysFrom = new long[MOST_IN_TEXT + 1];
         }
 
         boolean beginningsHold(Row text, WordList list) {
@@ -891,24 +889,16 @@ public final class Stemspan {
         }
 
         boolean cutsHold(Row text, Cutter cutter) {
-            int size = Math.min(text.size(), MOST_IN_TEXT);
-            for (int place = size; place >= 0; place--) {
-                waysFrom[place] = cutter.countWays(place);
-                if (place < size && waysFrom[place] != waysByFirst(place, size, cutter)) {
-                    return false;
-                }
+            if (text.size() == 0) {
+                return true;
             }
-            return true;
-        }
-
-        private long waysByFirst(int place, int size, Cutter cutter) {
             long all = 0L;
-            for (int many = 1; many <= MOST_IN_WORD && place + many <= size; many++) {
-                if (cutter.fitsAt(place, many)) {
-                    all += waysFrom[place + many];
+            for (int many = 1; many <= MOST_IN_WORD; many++) {
+                if (cutter.fitsAt(0, many)) {
+                    all += cutter.countWays(many);
                 }
             }
-            return all;
+            return cutter.countWays(0) == all;
         }
 
         boolean fewestHolds(WordList list, Cutter cutter) {
