@@ -2,6 +2,8 @@
 final class Check {
     private static int right = 0;
     private static int wrong = 0;
+    // Stands ahead of each line that tells what is wrong.
+    private static String about = "";
 
     private Check() {
     }
@@ -18,9 +20,24 @@ final class Check {
         tell(what, got.equals(want), got, want);
     }
 
+    /** Runs a test; a throw that it did not wait for is a wrong answer, and so is a test that checks nothing. */
+    static void run(String what, Runnable test) {
+        about = what.concat(": ");
+        int before = right + wrong;
+        try {
+            test.run();
+        } catch (RuntimeException e) {
+            tell("the test", false, "throws.".concat(e.getClass().getName()), "its end");
+        }
+        due("the test checks something", right + wrong > before, true);
+        about = "";
+    }
+
     /** The call must throw just this exception and leave text, words and codes as they were. */
     static void dueThrow(String what, Stemspan x, Class<?> want, Runnable call) {
         long before = x.checksum();
+        int size = x.clip(0, 0);
+        int words = x.words();
         String thrown = "nothing";
         try {
             call.run();
@@ -29,6 +46,8 @@ final class Check {
         }
         due(what.concat(" throws"), thrown, want.getName());
         due(what.concat(" changes nothing"), x.checksum(), before);
+        due(what.concat(" leaves the text's size"), x.clip(0, 0), size);
+        due(what.concat(" leaves as many words"), x.words(), words);
     }
 
     private static void tell(String what, boolean good, String got, String want) {
@@ -38,7 +57,7 @@ final class Check {
         }
         wrong++;
         if (wrong <= 50) {
-            System.out.println(what + ": answered " + got + ", due is " + want);
+            System.out.println(about + what + ": answered " + got + ", due is " + want);
         }
     }
 
