@@ -275,7 +275,8 @@ public final class CodesEdgesTest {
             CodesEdgesTest::writeAllOfNone,
             CodesEdgesTest::writeAllNoneGrows,
             CodesEdgesTest::writeAllSomeGrow,
-            CodesEdgesTest::writeAllAllGrow);
+            CodesEdgesTest::writeAllAllGrow,
+            CodesEdgesTest::writeAllOnceWordsAreGone);
         Doc.row("Throws `UnsupportedOperationException` if the codes are not orderly",
             CodesEdgesTest::writeAllNotOrderly,
             CodesEdgesTest::writeAllOfNoneNotOrderly,
@@ -341,6 +342,17 @@ public final class CodesEdgesTest {
 
     private static void writeAllAllGrow() {
         Check.due("all of three", by(ORDERLY, "", "b=1", "cd=2", "fb=3").writeAll(), 3);
+    }
+
+    private static void writeAllOnceWordsAreGone() {
+        Stemspan x = by(ORDERLY, "", "a=1", "b=2", "d=3");
+        Check.due("two of three", x.writeAll(), 2);
+        Check.setText(x, "b");
+        Check.due("two are gone", x.gone(), 2);
+        Check.due("none of one", x.writeAll(), 0);
+        Check.setText(x, "a");
+        x.take();
+        Check.due("none of none", x.writeAll(), 0);
     }
 
     private static void writeAllNotOrderly() {

@@ -31,6 +31,13 @@ public final class CutsEdgesTest {
         return x;
     }
 
+    private static void takeWord(Stemspan x, String word) {
+        String text = Check.textOf(x);
+        Check.setText(x, word);
+        x.take();
+        Check.setText(x, text);
+    }
+
     private static void pieces() {
         Doc.promise(24);
         Doc.row("Cuts the text by the longest each time.",
@@ -42,7 +49,8 @@ public final class CutsEdgesTest {
             CutsEdgesTest::piecesOneAndTwentyFour,
             CutsEdgesTest::piecesAllIsLeft,
             CutsEdgesTest::piecesOneSignIsLeft,
-            CutsEdgesTest::piecesLeftThoughThereIsAWay);
+            CutsEdgesTest::piecesLeftThoughThereIsAWay,
+            CutsEdgesTest::piecesOnceAWordIsTaken);
     }
 
     private static void piecesLeaveTheText() {
@@ -84,6 +92,15 @@ public final class CutsEdgesTest {
         Check.due("ab, then c is left", with("abc", "a=1", "ab=2", "bc=3").pieces(), -3);
     }
 
+    private static void piecesOnceAWordIsTaken() {
+        Stemspan x = with("abab", "a=1", "ab=2");
+        Check.due("before", x.pieces(), 2);
+        takeWord(x, "ab");
+        Check.due("after", x.pieces(), -2);
+        takeWord(x, "a");
+        Check.due("after both", x.pieces(), -1);
+    }
+
     private static void piece() {
         Doc.promise(25);
         Doc.row("Returns how many signs a piece has as the text is cut by the longest each time, also if something "
@@ -97,7 +114,8 @@ public final class CutsEdgesTest {
             CutsEdgesTest::pieceTooLarge,
             CutsEdgesTest::pieceTooLargeAndSomethingIsLeft,
             CutsEdgesTest::pieceOfNoSigns,
-            CutsEdgesTest::pieceAllIsLeft);
+            CutsEdgesTest::pieceAllIsLeft,
+            CutsEdgesTest::pieceOnceAWordIsTaken);
     }
 
     private static void pieceCutWholly() {
@@ -164,12 +182,21 @@ public final class CutsEdgesTest {
         Check.dueThrow("index 0, no words", y, NoSuchElementException.class, () -> y.piece(0));
     }
 
+    private static void pieceOnceAWordIsTaken() {
+        Stemspan x = with("abab", "a=1", "ab=2");
+        Check.due("before", x.piece(1), 2);
+        takeWord(x, "ab");
+        Check.due("after", x.piece(0), 1);
+        Check.dueThrow("index 1 after", x, NoSuchElementException.class, () -> x.piece(1));
+    }
+
     private static void cuts() {
         Doc.promise(26);
         Doc.row("Returns in how many ways the text can be cut.",
             CutsEdgesTest::cutsOfNoSigns,
             CutsEdgesTest::cutsNone,
             CutsEdgesTest::cutsOne,
+            CutsEdgesTest::cutsOnceAWordIsTaken,
             CutsEdgesTest::cutsUpToTheEndOnly);
         Doc.row("Returns how many.", CutsEdgesTest::cutsOfTenAndEleven, CutsEdgesTest::cutsMost);
     }
@@ -190,6 +217,15 @@ public final class CutsEdgesTest {
         Check.due("one sign", with("a", "a=1").cuts(), 1);
         Check.due("24 signs by the same word", with(A24, "a=1").cuts(), 1);
         Check.due("not by the longest", with("abc", "a=1", "ab=2", "bc=3").cuts(), 1);
+    }
+
+    private static void cutsOnceAWordIsTaken() {
+        Stemspan x = with("aaa", "a=1", "aa=2", "aaa=3");
+        Check.due("before", x.cuts(), 4);
+        takeWord(x, "aaa");
+        Check.due("after", x.cuts(), 3);
+        takeWord(x, "a");
+        Check.due("after two", x.cuts(), 0);
     }
 
     private static void cutsUpToTheEndOnly() {
@@ -214,7 +250,9 @@ public final class CutsEdgesTest {
             CutsEdgesTest::fewestOfNoSigns,
             CutsEdgesTest::fewestOneAndTwentyFour,
             CutsEdgesTest::fewestNotByTheLongest);
-        Doc.row("Returns how many, -1 if there is no way.", CutsEdgesTest::fewestNoWay);
+        Doc.row("Returns how many, -1 if there is no way.",
+            CutsEdgesTest::fewestNoWay,
+            CutsEdgesTest::fewestOnceAWordIsTaken);
     }
 
     private static void fewestOfNoSigns() {
@@ -241,5 +279,14 @@ public final class CutsEdgesTest {
         Check.due("the last sign is left", with("a".repeat(23) + "b", "a=1").fewest(), -1);
         Check.due("the first sign is left", with("b" + "a".repeat(23), "a=1").fewest(), -1);
         Check.due("a word that goes on over the end", with("aa", "aaa=2").fewest(), -1);
+    }
+
+    private static void fewestOnceAWordIsTaken() {
+        Stemspan x = with("aaa", "a=1", "aa=2", "aaa=3");
+        Check.due("before", x.fewest(), 1);
+        takeWord(x, "aaa");
+        Check.due("after", x.fewest(), 2);
+        takeWord(x, "a");
+        Check.due("after two", x.fewest(), -1);
     }
 }

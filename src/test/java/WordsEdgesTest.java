@@ -199,7 +199,8 @@ public final class WordsEdgesTest {
         Doc.row("Takes the text out of the words; the text stays.",
             WordsEdgesTest::takeTheOnlyOne,
             WordsEdgesTest::takeFirstAndLast,
-            WordsEdgesTest::takeFromFullList);
+            WordsEdgesTest::takeFromFullList,
+            WordsEdgesTest::takeThenPutOthers);
         Doc.row("Returns the number that it had.", WordsEdgesTest::takeAnswersLeastAndGreatest);
         Doc.row("Throws `NoSuchElementException` if it is no word",
             WordsEdgesTest::takeAmongNone,
@@ -233,6 +234,19 @@ public final class WordsEdgesTest {
         Check.setText(x, "aa");
         Check.due("the first one", x.take(), 0);
         Check.due("words", x.words(), 22);
+    }
+
+    private static void takeThenPutOthers() {
+        Stemspan x = new Stemspan();
+        Check.putAll(x, "a=1", "b=2", "c=3");
+        Check.setText(x, "a");
+        x.take();
+        Check.putAll(x, "d=4");
+        Check.due("put behind all", Check.wordsOf(x), "b=2 c=3 d=4");
+        Check.setText(x, "c");
+        x.take();
+        Check.putAll(x, "a=5");
+        Check.due("put ahead of all", Check.wordsOf(x), "a=5 b=2 d=4");
     }
 
     private static void takeAnswersLeastAndGreatest() {
